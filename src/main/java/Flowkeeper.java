@@ -43,8 +43,6 @@ public final class Flowkeeper {
     private static final int MOST_EVENTS_RUNNING = 77;
     /** A history of so many events takes nothing more that happens, so that DECIDED and OVER find room. */
     private static final int FULL_OF_EVENTS = 78;
-    /** UNDO leaves no event, so only the steps between the things that happen bound what is to be undone. */
-    private static final int MOST_UNDOS = FULL_OF_EVENTS * MOST_STEPS_GONE;
 
     /** The second number of a TELL that tells the register. */
     private static final int REGISTER_TOLD = 100;
@@ -167,7 +165,12 @@ public final class Flowkeeper {
         if (!player.play(program, run.history, flow.runCount, true)) {
             return MISMATCH;
         }
-        return putDown(flow, version);
+        putDown(flow, version);
+        if (player.decisions.endsRun()) {
+            close(flow, player.decisions);
+        }
+        run.tellUnmade();
+        return player.decisions.count;
     }
 
     // ---- activities
@@ -434,8 +437,8 @@ public final class Flowkeeper {
         }
     }
 
-    /** Puts what was played anew behind the history of the latest run. Returns how many events that are. */
-    private int putDown(Workflow flow, int version) {
+    /** Puts what was decided anew behind the history of the latest run, with all that it does but ending the run. */
+    private void putDown(Workflow flow, int version) {
         Run run = flow.latest;
         Decisions decided = player.decisions;
         int length = run.history.size + 1 + decided.count;
@@ -445,21 +448,11 @@ public final class Flowkeeper {
             run.register = player.register;
             run.place = player.waitingPlace();
         }
-        // The children from this number on find all workflows used up.
-        int firstUnmade = run.childCount + MOST_WORKFLOWS - flowCount;
         run.history.put(DECIDED, version, 0);
         for (int i = 0; i < decided.count && i < MOST_EVENTS; i++) {
             run.history.put(decided.kinds[i], decided.firsts[i], decided.seconds[i]);
             takeEffect(flow, decided.kinds[i], decided.firsts[i], decided.seconds[i]);
         }
-        int last = decided.count - 1;
-        if (isWithin(last, 0, MOST_EVENTS - 1) && decided.kinds[last] == OVER) {
-            close(flow, decided.firsts[last], decided.seconds[last]);
-        }
-        for (int i = firstUnmade; i < run.childCount; i++) {
-            run.happen(CHILD_OVER, i, NONE);
-        }
-        return decided.count;
     }
 
     private void takeEffect(Workflow flow, int kind, int first, int second) {
@@ -502,11 +495,15 @@ public final class Flowkeeper {
             child.numberAsChild = run.childCount;
             child.fate = fate;
             addFlow(child);
+        } else {
+            run.unmadeCount++;
         }
         run.childCount++;
     }
 
-    private void close(Workflow flow, int state, int result) {
+    private void close(Workflow flow, Decisions decided) {
+        int state = decided.lastFirst();
+        int result = decided.lastSecond();
         flow.latest.stop(state);
         letGo(flow, 0);
         if (state == AGAIN) {
@@ -751,6 +748,8 @@ public final class Flowkeeper {
         int activityCount;
         int timerCount;
         int childCount;
+        /** How many of the latest children found all workflows used up, and are not told to be over yet. */
+        int unmadeCount;
         int state = RUNNING;
         int register;
         int place = NONE;
@@ -775,6 +774,13 @@ public final class Flowkeeper {
             }
             isCancelAsked = true;
             return true;
+        }
+
+        void tellUnmade() {
+            for (int i = childCount - unmadeCount; i < childCount; i++) {
+                happen(CHILD_OVER, i, NONE);
+            }
+            unmadeCount = 0;
         }
 
         /** What is decided stands right behind its DECIDED, so the last event tells whether anything came later. */
@@ -957,7 +963,7 @@ public final class Flowkeeper {
         /** Whether there is a DECIDED ahead. */
         boolean isAgain;
         boolean differs;
-        private History past = new History();
+        History past = new History();
         /** The place in the history of what must be decided next, and the place behind the last of these. */
         private int at;
         private int behind;
@@ -1016,6 +1022,18 @@ public final class Flowkeeper {
             }
         }
 
+        boolean endsRun() {
+            return count > 0 && count <= MOST_EVENTS && kinds[count - 1] == OVER;
+        }
+
+        int lastFirst() {
+            return count > 0 && count <= MOST_EVENTS ? firsts[count - 1] : NONE;
+        }
+
+        int lastSecond() {
+            return count > 0 && count <= MOST_EVENTS ? seconds[count - 1] : NONE;
+        }
+
         void failTooLong() {
             count = 0;
             put(OVER, FAILED, HISTORY_TOO_LONG);
@@ -1030,10 +1048,9 @@ public final class Flowkeeper {
         int register;
         private final Slot[] slots = new Slot[MOST_SIDE_STEPS];
         private final boolean[] isMarked = new boolean[MARKS];
-        /** The UNDO steps that are to be undone. */
-        private final int[] undos = new int[MOST_UNDOS];
+        /** The latest UNDO steps in a ring: each UNDOING is an event, so no history has room to undo the older ones. */
+        private final int[] undos = new int[MOST_EVENTS];
         private Program program = new Program();
-        private History history = new History();
         private int runNumber;
         private int phase;
         private int place;
@@ -1086,7 +1103,6 @@ public final class Flowkeeper {
 
         private void begin(Program version, History past, int run) {
             program = version;
-            history = past;
             runNumber = run;
             decisions.begin(past);
             for (int i = 0; i < MOST_EVENTS; i++) {
@@ -1220,7 +1236,11 @@ public final class Flowkeeper {
                     backOut(STEPS_USED_UP);
                 } else {
                     guardsLeft = Math.max(0, guardsLeft - 1);
-                    goThrough(program.kinds[place], program.firsts[place], program.seconds[place]);
+                    if (program.kinds[place] > SIDE) {
+                        goThrough(program.kinds[place], program.firsts[place], program.seconds[place]);
+                    } else {
+                        beginSteps();
+                    }
                 }
                 settle();
             }
@@ -1259,9 +1279,9 @@ public final class Flowkeeper {
         }
 
         private void undoNext() {
-            if (undoCount > 0 && undoCount <= MOST_UNDOS) {
+            if (undoCount > 0) {
                 undoCount--;
-                int step = undos[undoCount];
+                int step = undos[undoCount % MOST_EVENTS];
                 undoing = decisions.activities;
                 decisions.put(UNDOING, program.firsts[step], program.seconds[step]);
                 phase = UNDOES;
@@ -1277,6 +1297,7 @@ public final class Flowkeeper {
             phase = IS_OVER;
         }
 
+        /** The steps for which nothing is waited. */
         private void goThrough(int kind, int a, int b) {
             int behind = place + 1;
             switch (kind) {
@@ -1289,9 +1310,6 @@ public final class Flowkeeper {
                 case MARK:
                     place = passesMark(a) ? behind : behind + b;
                     break;
-                case SIDE:
-                    beginSteps(behind, a);
-                    break;
                 case FAIL:
                     backOut(a);
                     break;
@@ -1300,12 +1318,6 @@ public final class Flowkeeper {
                     break;
                 case END:
                     finish(ENDED, register);
-                    break;
-                case ACT:
-                case TIMER:
-                case WAIT:
-                case CHILD:
-                    beginSteps(place, 1);
                     break;
                 default:
                     note(kind, a, b);
@@ -1324,10 +1336,8 @@ public final class Flowkeeper {
                     register = Math.max(-MOST_REGISTER, Math.min(MOST_REGISTER, register + a));
                     break;
                 case UNDO:
-                    if (undoCount < MOST_UNDOS) {
-                        undos[undoCount] = place;
-                        undoCount++;
-                    }
+                    undos[undoCount % MOST_EVENTS] = place;
+                    undoCount++;
                     break;
                 case GUARD:
                     guardsLeft = Math.max(guardsLeft, a);
@@ -1360,8 +1370,10 @@ public final class Flowkeeper {
             return true;
         }
 
-        private void beginSteps(int first, int count) {
-            slotCount = Math.min(count, MOST_SIDE_STEPS);
+        private void beginSteps() {
+            boolean isSide = program.kinds[place] == SIDE;
+            int first = isSide ? place + 1 : place;
+            slotCount = isSide ? Math.min(program.firsts[place], MOST_SIDE_STEPS) : 1;
             next = first + slotCount;
             phase = WAITS;
             for (int i = 0; i < slotCount; i++) {
@@ -1393,6 +1405,7 @@ public final class Flowkeeper {
         }
 
         private void beginWait(Slot slot, int which, int ticks) {
+            History history = decisions.past;
             slot.which = which;
             for (int i = 0; i < heard && i < MOST_EVENTS; i++) {
                 if (history.kinds[i] == SIGNAL && history.firsts[i] == which && !isTaken[i]) {

@@ -49,4 +49,53 @@ final class Tale {
     static void all(Flowkeeper x, int workflow, String want) {
         behind(x, workflow, 0, want);
     }
+
+    static void decides(Flowkeeper x, int workflow, long want) {
+        Check.due("decide(" + workflow + ", 1)", want, () -> x.decide(workflow, 1));
+    }
+
+    /** The latest run's state and register, and the step at which it waits. */
+    static void stands(Flowkeeper x, int workflow, int state, int register, int place) {
+        Check.due("state of " + workflow, state, () -> x.state(workflow, x.runs(workflow)));
+        Check.due("register of " + workflow, register, () -> x.register(workflow));
+        Check.due("place of " + workflow, place, () -> x.place(workflow));
+    }
+
+    /** The worker 0 takes the next activity of the queue, which must be this one, and ends it. */
+    static void does(Flowkeeper x, int queue, int activity, int result) {
+        Check.due("take(0, " + queue + ")", activity, () -> x.take(0, queue));
+        Check.holds("end(0, " + result + ")", () -> Check.truth(x.end(0, result)));
+    }
+
+    /** The worker 0 takes the next activity of the queue, which must be this one, three times, and fails. */
+    static void loses(Flowkeeper x, int queue, int activity) {
+        for (int i = 1; i <= 3; i++) {
+            int tried = i;
+            Check.due("take(0, " + queue + ")", activity, () -> x.take(0, queue));
+            Check.due("fail(0)", tried, () -> x.fail(0));
+            if (i < 3) {
+                x.tick(2 * i);
+            }
+        }
+    }
+
+    static void signals(Flowkeeper x, int workflow, int which, int value) {
+        Check.holds("signal(" + workflow + ", " + which + ", " + value + ")",
+                () -> Check.truth(x.signal(workflow, which, value)));
+    }
+
+    static void cancels(Flowkeeper x, int workflow) {
+        Check.holds("cancel(" + workflow + ")", () -> Check.truth(x.cancel(workflow)));
+    }
+
+    /** Two tries of each of the ready activities of the queue 0 fail, within six ticks, and they are ready then. */
+    static void loseTwice(Flowkeeper x, int... activities) {
+        for (int tried = 1; tried <= 2; tried++) {
+            for (int activity : activities) {
+                Check.due("take(0, 0)", activity, () -> x.take(0, 0));
+                x.fail(0);
+            }
+            x.tick(2 * tried);
+        }
+    }
 }
