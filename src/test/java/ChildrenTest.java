@@ -12,6 +12,7 @@ final class ChildrenTest implements Words {
         noRoomAndCut();
         whatWasTold();
         stoppedDeep();
+        overAlready();
         stoppedRunOfMany();
         parentIsAnotherRun();
         fullParent();
@@ -223,6 +224,24 @@ final class ChildrenTest implements Words {
         Tale.all(x, 2, "STARTED 5 0, DECIDED 1 0, ACTIVITY 1 0, CHILD_MADE 1 1, TIMER_SET 2 0");
         Tale.stands(x, 3, RUNNING, 0, NONE);
         Tale.all(x, 3, "STARTED 5 0, CANCEL 0 0");
+    }
+
+    /** Only children that are RUNNING, and only its own. */
+    private static void overAlready() {
+        Flowkeeper x = family(CHILD, 1, 2, CHILD, 1, 2);
+        x.decide(1, 1);
+        Tale.signals(x, 1, 0, 4);
+        x.decide(1, 1);
+        x.decide(0, 1);
+        x.start(0, 0, 0);
+        x.decide(3, 1);
+        x.decide(4, 1);
+        Tale.cancels(x, 0);
+        Tale.decides(x, 0, 1);
+        Tale.stands(x, 1, ENDED, 4, NONE);
+        Tale.stands(x, 2, STOPPED, 0, NONE);
+        Tale.stands(x, 3, RUNNING, 0, 0);
+        Tale.stands(x, 4, RUNNING, 0, 0);
     }
 
     private static void stoppedRunOfMany() {

@@ -84,8 +84,13 @@ final class CutTest implements Words {
     private static void cutUndoes() {
         Flowkeeper x = Tale.started(6, UNDO, 1, 1, UNDO, 2, 1, ACT, 0, 0);
         x.decide(0, 1);
+        Check.due("take", 100, () -> x.take(3, 0));
         Tale.cancels(x, 0);
+        Check.due("it has it up to the decision", 100, () -> x.has(3));
         Tale.decides(x, 0, 2);
+        Check.due("it is off, whoever has it", NONE, () -> x.has(3));
+        x.tick(20);
+        Check.due("and not ready again", 0, () -> x.ready(0));
         Tale.behind(x, 0, 3, "CANCEL 0 0, DECIDED 1 0, ACTIVITY_OFF 0 0, UNDOING 2 1");
         Tale.stands(x, 0, RUNNING, 6, NONE);
         Tale.does(x, 1, 101, 5);
@@ -94,6 +99,18 @@ final class CutTest implements Words {
         Tale.decides(x, 0, 1);
         Tale.behind(x, 0, 7, "DONE 1 5, DECIDED 1 0, UNDOING 1 1, LOST 2 0, DECIDED 1 0, OVER 23 0");
         Tale.stands(x, 0, CANCELLED, 6, NONE);
+        // Ready ones are taken off, too; and what was not off yet when it was done is nothing to the undoing.
+        Flowkeeper y = Tale.started(6, UNDO, 1, 1, SIDE, 3, 0, ACT, 0, 0, ACT, 0, 0, TIMER, 7, 0);
+        y.decide(0, 1);
+        Tale.cancels(y, 0);
+        Tale.does(y, 0, 100, 5);
+        Tale.decides(y, 0, 4);
+        Tale.behind(y, 0, 5, "CANCEL 0 0, DONE 0 5, DECIDED 1 0, ACTIVITY_OFF 0 0, ACTIVITY_OFF 1 0, TIMER_OFF 0 0, "
+                + "UNDOING 1 1");
+        Check.due("ready", 0, () -> y.ready(0));
+        Check.due("the undoing is ready", 1, () -> y.ready(1));
+        y.tick(7);
+        Check.due("the timer does not fire", 12, () -> y.events(0, 1));
     }
 
     private static void cutInOneDecision() {

@@ -110,6 +110,14 @@ final class StepsTest implements Words {
         Tale.behind(x, 0, 3, "FIRED 0 0, SIGNAL 0 44, DECIDED 1 0, TIMER_SET 1 0");
         Tale.stands(x, 0, RUNNING, 44, 2);
 
+        for (int ticks = 1; ticks <= 50; ticks += 49) {
+            Flowkeeper v = Tale.started(9, WAIT, 0, ticks);
+            Tale.decides(v, 0, 1);
+            Tale.behind(v, 0, 2, "TIMER_SET " + ticks + " 0");
+            v.tick(ticks);
+            Tale.decides(v, 0, 1);
+            Tale.stands(v, 0, ENDED, -1, NONE);
+        }
         Flowkeeper y = Tale.started(9, WAIT, 0, 5, ACT, 0, 0);
         y.decide(0, 1);
         y.tick(5);
