@@ -166,9 +166,7 @@ public final class Flowkeeper {
             return MISMATCH;
         }
         putDown(flow, version);
-        if (player.decisions.endsRun()) {
-            close(flow, player.decisions);
-        }
+        closeIfOver(flow);
         run.tellUnmade();
         return player.decisions.count;
     }
@@ -501,9 +499,14 @@ public final class Flowkeeper {
         run.childCount++;
     }
 
-    private void close(Workflow flow, Decisions decided) {
-        int state = decided.lastFirst();
-        int result = decided.lastSecond();
+    private void closeIfOver(Workflow flow) {
+        History history = flow.latest.history;
+        int last = history.size - 1;
+        if (!isWithin(last, 0, MOST_EVENTS - 1) || history.kinds[last] != OVER) {
+            return;
+        }
+        int state = history.firsts[last];
+        int result = history.seconds[last];
         flow.latest.stop(state);
         letGo(flow, 0);
         if (state == AGAIN) {
@@ -1020,18 +1023,6 @@ public final class Flowkeeper {
             } else {
                 differs = true;
             }
-        }
-
-        boolean endsRun() {
-            return count > 0 && count <= MOST_EVENTS && kinds[count - 1] == OVER;
-        }
-
-        int lastFirst() {
-            return count > 0 && count <= MOST_EVENTS ? firsts[count - 1] : NONE;
-        }
-
-        int lastSecond() {
-            return count > 0 && count <= MOST_EVENTS ? seconds[count - 1] : NONE;
         }
 
         void failTooLong() {

@@ -170,11 +170,11 @@ final class LimitsTest implements Words {
         // A great many things decided at once.
         Flowkeeper v = Tale.started(0, TELL, 0, 1, TELL, 0, 1, TELL, 0, 1, TELL, 0, 1, TELL, 0, 1, TELL, 0, 1,
                 TELL, 0, 1, TELL, 0, 1, WAIT, 0, 0, BACK, 99, 9);
-        for (int i = 0; i < 9; i++) {
+        for (int i = 0; i < 12; i++) {
             Tale.signals(v, 0, 0, i);
         }
         Tale.decides(v, 0, 1);
-        Tale.behind(v, 0, 10, "DECIDED 1 0, OVER 22 8");
+        Tale.behind(v, 0, 13, "DECIDED 1 0, OVER 22 8");
         Tale.stands(v, 0, FAILED, 0, NONE);
     }
 
