@@ -12,8 +12,18 @@ final class Check {
 
     private static int checked;
     private static int wrong;
+    /** What the answers are about, told ahead of each wrong one. */
+    private static String about = "";
 
     private Check() {
+    }
+
+    static void about(String what) {
+        about = what.isEmpty() ? "" : "[" + what + "]\n    ";
+    }
+
+    static int count() {
+        return checked;
     }
 
     static long truth(boolean value) {
@@ -60,7 +70,7 @@ final class Check {
         checked++;
         if (!want.equals(got)) {
             wrong++;
-            System.out.println("  " + what + "\n    due is   " + want + "\n    answered " + got);
+            System.out.println("  " + about + what + "\n    due is   " + want + "\n    answered " + got);
         }
     }
 
