@@ -34,7 +34,8 @@ final class ModelTest {
         }
         System.out.println("  seen: " + SEEN);
         for (String must : new String[] {"OVER 22 1", "OVER 22 7", "OVER 22 8", "OVER 22 9", "OVER 14", "OVER 21",
-            "OVER 23", "STOPPED", "MISMATCH", "MISMATCH anew", "no room for a child"}) {
+            "OVER 23", "STOPPED", "MISMATCH", "MISMATCH anew", "no room for a child", "78 events",
+            "80 events, and it did not fail with 8", "77 events behind a decision"}) {
             Check.holds("the runs come to " + must, () -> Check.truth(SEEN.containsKey(must)));
         }
         Check.done("ModelTest");
@@ -80,6 +81,7 @@ final class ModelTest {
                 if (x.state(w, r) == Flowkeeper.STOPPED) {
                     seen("STOPPED");
                 }
+                edges(w, r);
                 for (int e = 0; e < x.events(w, r); e++) {
                     int kind = x.eventKind(w, r, e);
                     int first = x.eventNumber(w, r, e, true);
@@ -94,6 +96,21 @@ final class ModelTest {
                     }
                 }
             }
+        }
+    }
+
+    /** Whether the run came to the edge of what its history can have. */
+    private void edges(int w, int r) {
+        int last = x.events(w, r) - 1;
+        boolean isOver = x.state(w, r) != Flowkeeper.RUNNING && x.state(w, r) != Flowkeeper.STOPPED;
+        if (last == 79 && x.eventNumber(w, r, last, false) != 8) {
+            seen("80 events, and it did not fail with 8");
+        }
+        if (!isOver && last == 77) {
+            seen("78 events");
+        }
+        if (last >= 77 && x.eventKind(w, r, 76) >= Flowkeeper.DECIDED && x.eventKind(w, r, 77) < Flowkeeper.DECIDED) {
+            seen("77 events behind a decision");
         }
     }
 
