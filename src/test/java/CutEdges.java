@@ -44,6 +44,28 @@ final class CutEdges implements Words {
             Tale.decides(y, 0, 1);
         }
         Tale.stands(y, 0, FAILED, 2, NONE);
+        // The list has no end: behind a hundred UNDOs it is still the latest one first.
+        Flowkeeper many = Tale.started(0, WAIT, 0, 0, UNDO, 1, 0, UNDO, 2, 0, UNDO, 3, 0, UNDO, 4, 0, UNDO, 5, 0,
+                UNDO, 1, 0, UNDO, 2, 0, UNDO, 3, 0, UNDO, 4, 0, UNDO, 0, 0, BACK, 10, 11);
+        for (int i = 1; i <= 10; i++) {
+            Tale.signals(many, 0, 0, i);
+        }
+        Tale.cancels(many, 0);
+        Tale.decides(many, 0, 1);
+        Tale.stands(many, 0, ENDED, 10, NONE);
+        many.start(0, 0, 0);
+        for (int i = 1; i <= 10; i++) {
+            Tale.signals(many, 1, 0, -i);
+        }
+        Tale.cancels(many, 1);
+        many.decide(1, 1);
+        int[] kinds = {0, 4, 3, 2, 1, 5, 4, 3, 2, 1, 0, 4, 3, 2, 1};
+        for (int i = 0; i < kinds.length; i++) {
+            Check.due("the kind of UNDOING " + i, kinds[i], () -> many.eventNumber(1, 1, many.events(1, 1) - 1, true));
+            Tale.does(many, 0, 1100 + i, 0);
+            many.tick(1);
+            Tale.decides(many, 1, 1);
+        }
         // With nothing to be undone it is over at once.
         Flowkeeper z = Tale.started(5, WAIT, 0, 0);
         Tale.cancels(z, 0);
