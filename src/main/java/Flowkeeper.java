@@ -24,7 +24,6 @@ public final class Flowkeeper {
     private static final int WORKERS = 4;
     private static final int SIGNALS = 3;
     private static final int PROPERTIES = 2;
-    private static final int MARKS = 4;
 
     private static final int MOST_VERSIONS = 4;
     private static final int MOST_STEPS = 12;
@@ -1038,9 +1037,11 @@ public final class Flowkeeper {
         final boolean[] isTaken = new boolean[MOST_EVENTS];
         int register;
         private final Slot[] slots = new Slot[MOST_SIDE_STEPS];
-        private final boolean[] isMarked = new boolean[MARKS];
-        /** The latest UNDO steps in a ring: each UNDOING is an event, so no history has room to undo the older ones. */
-        private final int[] undos = new int[MOST_EVENTS];
+        /** What is to be undone, in a ring: each UNDOING is an event, so no history has room to undo the older ones. */
+        private final int[] undoKinds = new int[MOST_EVENTS];
+        private final int[] undoQueues = new int[MOST_EVENTS];
+        /** A bit for each mark that was MARKED. */
+        private int marked;
         private Program program = new Program();
         private int runNumber;
         private int phase;
@@ -1099,10 +1100,8 @@ public final class Flowkeeper {
             for (int i = 0; i < MOST_EVENTS; i++) {
                 isTaken[i] = false;
             }
-            for (int i = 0; i < MARKS; i++) {
-                isMarked[i] = false;
-            }
             register = 0;
+            marked = 0;
             phase = GOES_ON;
             place = 0;
             next = 0;
@@ -1166,12 +1165,18 @@ public final class Flowkeeper {
                 Slot slot = slots[i];
                 if (slot.which == which && !slot.isOver) {
                     slot.become(value, false);
-                    isTaken[heard - 1] = true;
+                    noteTaken(heard - 1);
                     if (slot.timer != NONE) {
                         decisions.put(TIMER_OFF, slot.timer, 0);
                     }
                     return;
                 }
+            }
+        }
+
+        private void noteTaken(int event) {
+            if (event >= 0 && event < MOST_EVENTS) {
+                isTaken[event] = true;
             }
         }
 
@@ -1272,9 +1277,9 @@ public final class Flowkeeper {
         private void undoNext() {
             if (undoCount > 0) {
                 undoCount--;
-                int step = undos[undoCount % MOST_EVENTS];
+                int latest = undoCount % MOST_EVENTS;
                 undoing = decisions.activities;
-                decisions.put(UNDOING, program.firsts[step], program.seconds[step]);
+                decisions.put(UNDOING, undoKinds[latest], undoQueues[latest]);
                 phase = UNDOES;
             } else if (failure == NO_FAILURE) {
                 finish(CANCELLED, 0);
@@ -1327,7 +1332,8 @@ public final class Flowkeeper {
                     register = Math.max(-MOST_REGISTER, Math.min(MOST_REGISTER, register + a));
                     break;
                 case UNDO:
-                    undos[undoCount % MOST_EVENTS] = place;
+                    undoKinds[undoCount % MOST_EVENTS] = a;
+                    undoQueues[undoCount % MOST_EVENTS] = b;
                     undoCount++;
                     break;
                 case GUARD:
@@ -1351,20 +1357,22 @@ public final class Flowkeeper {
 
         /** A decision of an older program went on without the mark, and must go the same way again. */
         private boolean passesMark(int mark) {
-            if (!isMarked[mark] && decisions.isAgain && !decisions.isNextAgain(MARKED, mark)) {
+            int bit = 1 << mark;
+            if ((marked & bit) != 0) {
+                return true;
+            }
+            if (decisions.isAgain && !decisions.isNextAgain(MARKED, mark)) {
                 return false;
             }
-            if (!isMarked[mark]) {
-                isMarked[mark] = true;
-                decisions.put(MARKED, mark, 0);
-            }
+            marked |= bit;
+            decisions.put(MARKED, mark, 0);
             return true;
         }
 
         private void beginSteps() {
             boolean isSide = program.kinds[place] == SIDE;
             int first = isSide ? place + 1 : place;
-            slotCount = isSide ? Math.min(program.firsts[place], MOST_SIDE_STEPS) : 1;
+            slotCount = Math.min(isSide ? Math.min(program.firsts[place], MOST_SIDE_STEPS) : 1, program.size - first);
             next = first + slotCount;
             phase = WAITS;
             for (int i = 0; i < slotCount; i++) {
@@ -1400,7 +1408,7 @@ public final class Flowkeeper {
             slot.which = which;
             for (int i = 0; i < heard && i < MOST_EVENTS; i++) {
                 if (history.kinds[i] == SIGNAL && history.firsts[i] == which && !isTaken[i]) {
-                    isTaken[i] = true;
+                    noteTaken(i);
                     slot.become(history.seconds[i], false);
                     return;
                 }
