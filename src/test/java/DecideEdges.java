@@ -399,6 +399,20 @@ final class DecideEdges implements Words {
         Tale.signals(none, 0, 1, 2);
         Tale.decides(none, 0, 1);
         Tale.all(none, 0, "STARTED 2 0");
+        // The 78th event, too, is taken or not: with OVER the history is full.
+        for (int which = 0; which <= 1; which++) {
+            Flowkeeper last = Tale.started(5, WAIT, 1, 0, AGAIN, 0, 0);
+            last.decide(0, 1);
+            Edge.fill(last, 0, 2, which == 1 ? 77 : 76);
+            Tale.signals(last, 0, 1, 4);
+            if (which == 0) {
+                Tale.signals(last, 0, 0, 9);
+            }
+            Check.due("AGAIN", 1, () -> last.decide(0, 1));
+            Check.due("events of the run before", 80, () -> last.events(0, 1));
+            Check.due("STARTED and what was not taken", 76, () -> last.events(0, 2));
+            Tale.behind(last, 0, 75, which == 1 ? "SIGNAL 2 0" : "SIGNAL 0 9");
+        }
         Edge.term("a cancel that was asked for and did nothing yet, too, behind them.");
         Flowkeeper z = Tale.started(5, GUARD, 2, 0, WAIT, 1, 0, AGAIN, 0, 0);
         Tale.cancels(z, 0);

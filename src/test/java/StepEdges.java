@@ -375,6 +375,15 @@ final class StepEdges implements Words {
         Tale.decides(x, 0, 4);
         Tale.behind(x, 0, 8, "DECIDED 1 0, TOLD 1 7, MARKED 1 0, TOLD 1 8, OVER 21 5");
         Check.due("it is the same when it is played again", 5, () -> x.registerAnew(0, 1));
+        // One mark does not stand for another, nor take its place.
+        Flowkeeper all = Tale.started(0, MARK, 0, 1, ADD, 1, 0, MARK, 1, 1, ADD, 1, 0, MARK, 2, 1, ADD, 1, 0,
+                MARK, 3, 1, ADD, 1, 0, WAIT, 0, 0, ADD, 1, 0, BACK, 9, 10);
+        Tale.decides(all, 0, 4);
+        Tale.behind(all, 0, 2, "MARKED 0 0, MARKED 1 0, MARKED 2 0, MARKED 3 0");
+        Tale.stands(all, 0, RUNNING, 4, 8);
+        Tale.signals(all, 0, 0, 0);
+        Tale.decides(all, 0, 0);
+        Tale.stands(all, 0, RUNNING, 5, 8);
         // Not of another run.
         Flowkeeper y = Tale.started(0, MARK, 0, 1, ADD, 1, 0, AGAIN, 0, 0);
         Tale.decides(y, 0, 2);
