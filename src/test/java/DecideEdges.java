@@ -334,6 +334,20 @@ final class DecideEdges implements Words {
         Check.due("it has ENDED", ENDED, () -> y.state(1, 1));
         Check.due("it has ENDED", ENDED, () -> y.state(2, 1));
         Check.due("without a CANCEL", 3, () -> y.events(2, 1));
+        // As deep as workflows can go: each one is the child of the one ahead of it.
+        Flowkeeper deep = Tale.started(5, SIDE, 2, 0, CHILD, 0, 2, ACT, 0, 0);
+        for (int i = 0; i < 10; i++) {
+            Tale.decides(deep, i, 2);
+        }
+        Check.due("all are children but the first", 8, () -> deep.parent(9));
+        Check.due("ready", 10, () -> deep.ready(0));
+        Tale.cancels(deep, 0);
+        Tale.decides(deep, 0, 2);
+        for (int i = 1; i < 10; i++) {
+            int child = i;
+            Check.due("child " + child, STOPPED, () -> deep.state(child, 1));
+        }
+        Check.due("none is ready", 0, () -> deep.ready(0));
     }
 
     private static void tellsParent() {
